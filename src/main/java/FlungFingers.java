@@ -1383,26 +1383,28 @@ public final class FlungFingers {
         }
 
         private void fillFrom(int x, int y, int xs, int ys) {
-            long ways = fillsNow[x * SIDE + y];
+            int at = x * SIDE + y;
+            long ways = fillsNow[at];
             boolean xStays = (xs >> x & 1) != 0;
             boolean yStays = (ys >> y & 1) != 0;
             if (xStays && yStays && law.kind != MULTIPLES) {
-                addFills(x, y, ways);
+                addFills(at, ways);
             }
-            for (int s = leastScore(); s <= mostScore(); s++) {
+            int most = mostScore();
+            for (int s = leastScore(); s <= most; s++) {
                 if (xStays && (ys >> (y + s) & 1) != 0) {
-                    addFills(x, y + s, ways);
+                    addFills(at + s, ways);
                 }
                 if (yStays && (xs >> (x + s) & 1) != 0) {
-                    addFills(x + s, y, ways);
+                    addFills(at + s * SIDE, ways);
                 }
             }
         }
 
-        private void addFills(int x, int y, long ways) {
-            int at = x * SIDE + y;
-            if (isWithin(at, 0, SIDE * SIDE - 1)) {
-                fillsBehind[at] = Math.min(fillsBehind[at] + ways, MOST_FILLS);
+        private void addFills(int at, long ways) {
+            if (at >= 0 && at < SIDE * SIDE) {
+                long all = fillsBehind[at] + ways;
+                fillsBehind[at] = all > MOST_FILLS ? MOST_FILLS : all;
             }
         }
 
@@ -1437,7 +1439,8 @@ public final class FlungFingers {
             if (law.kind != MULTIPLES) {
                 reach[at] |= ys;
             }
-            for (int s = leastScore(); s <= mostScore(); s++) {
+            int most = mostScore();
+            for (int s = leastScore(); s <= most; s++) {
                 reach[at] |= ys << s;
                 reach[at + s] |= ys;
             }
@@ -1453,7 +1456,8 @@ public final class FlungFingers {
 
         private int followedFrom(int at) {
             int ys = law.kind != MULTIPLES ? reach[at] : 0;
-            for (int s = leastScore(); s <= mostScore(); s++) {
+            int most = mostScore();
+            for (int s = leastScore(); s <= most; s++) {
                 ys |= reach[at] >> s | reach[at + s];
             }
             return ys;

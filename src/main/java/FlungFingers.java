@@ -593,8 +593,8 @@ public final class FlungFingers {
             return i >= 0 && i < size ? digits[i] : 0;
         }
 
+        /** Of a long that is not below 0. */
         void become(long v) {
-            size = 0;
             for (int i = 0; i < 3; i++) {
                 digits[i] = (int) (v >>> (BITS * i)) & MASK;
             }

@@ -38,7 +38,7 @@ public final class FlungFingers {
             marks.startAgain();
         }
         men.forgetAll();
-        return law.wayCount();
+        return law.wayCount;
     }
 
     public int way(int i, int what) {
@@ -341,7 +341,7 @@ public final class FlungFingers {
             case 0: return law.kind;
             case 1: return law.low;
             case 2: return law.high;
-            case 3: return law.wayCount();
+            case 3: return law.wayCount;
             case 4: return marks.rounds;
             case 5: return beats.size;
             case 6: return league.games;
@@ -378,7 +378,15 @@ public final class FlungFingers {
     private static final class Rule {
         static final int MOST_WAYS = 25, MOST_THROWS = 5;
 
-        int kind = MULTIPLES, low = 1, high = 2, multiple = 2;
+        private final int[] thrown = new int[MOST_WAYS];
+        private final int[] called = new int[MOST_WAYS];
+        int kind, low, high, multiple;
+        int throwCount;
+        int wayCount;
+
+        Rule() {
+            become(MULTIPLES, 1, 2, 2);
+        }
 
         static boolean allows(int kind, int l, int f, int m) {
             if (!isWithin(kind, MULTIPLES, SUM) || !isEither(l) || !isWithin(f, l + 1, 4)) {
@@ -396,22 +404,20 @@ public final class FlungFingers {
             low = l;
             high = f;
             multiple = newKind == MULTIPLES ? m : 0;
-        }
-
-        int throwCount() {
-            return high - low + 1;
-        }
-
-        int callCount() {
-            return kind == MULTIPLES ? 1 : throwCount();
-        }
-
-        int wayCount() {
-            return throwCount() * callCount();
+            throwCount = f - l + 1;
+            wayCount = 0;
+            for (int fingers = l; fingers <= f; fingers++) {
+                if (newKind == MULTIPLES) {
+                    addWay(fingers, NONE);
+                }
+                for (int other = l; other <= f && newKind != MULTIPLES; other++) {
+                    addWay(fingers, fingers + other);
+                }
+            }
         }
 
         boolean hasWay(int i) {
-            return isWithin(i, 0, wayCount() - 1);
+            return isWithin(i, 0, wayCount - 1);
         }
 
         boolean isThrow(int fingers) {
@@ -419,25 +425,33 @@ public final class FlungFingers {
         }
 
         int throwOf(int i) {
-            return low + i / Math.max(1, callCount());
+            return thrown[i];
         }
 
         int callOf(int i) {
-            return kind == MULTIPLES ? NONE : throwOf(i) + low + i % Math.max(1, callCount());
+            return called[i];
         }
 
         int payOf(int i, int j) {
-            int sum = throwOf(i) + throwOf(j);
+            int sum = thrown[i] + thrown[j];
             if (kind == MULTIPLES) {
-                return sum % Math.max(1, multiple) == 0 ? 1 : -1;
+                return multiple > 0 && sum % multiple == 0 ? 1 : -1;
             }
-            int right = (callOf(i) == sum ? 1 : 0) - (callOf(j) == sum ? 1 : 0);
+            int right = (called[i] == sum ? 1 : 0) - (called[j] == sum ? 1 : 0);
             return kind == ONE ? right : right * sum;
         }
 
         /** E: of SUM the greatest PAY is that of both throwing f with one of them right. */
         int bound() {
             return kind == SUM ? 2 * high + 1 : 2;
+        }
+
+        private void addWay(int fingers, int call) {
+            if (wayCount < MOST_WAYS) {
+                thrown[wayCount] = fingers;
+                called[wayCount] = call;
+                wayCount++;
+            }
         }
     }
 
@@ -508,7 +522,7 @@ public final class FlungFingers {
 
         private void lay() {
             Arrays.fill(cells, 0);
-            ways = law.wayCount();
+            ways = law.wayCount;
             d = 1;
             for (int i = 0; i < ways; i++) {
                 int row = i * WIDTH;
@@ -863,6 +877,24 @@ public final class FlungFingers {
         /** THE CHANCE with a, b is put in above, below. */
         void work(int a, int b) {
             findHit();
+            play(a, b);
+        }
+
+        int pointsGiven(int p) {
+            findHit();
+            int side = Long.compare(2 * hit, base);
+            if (side == 0) {
+                return 0;
+            }
+            for (int g = 0; g < p; g++) {
+                if (isEven(p, g, side)) {
+                    return side * g;
+                }
+            }
+            return side * (p - 1);
+        }
+
+        private void play(int a, int b) {
             Arrays.fill(row, 0);
             long power = 1;
             // row[i] by the (i + j - 1)-th power of base is THE CHANCE with i, j
@@ -880,26 +912,12 @@ public final class FlungFingers {
             below = power;
         }
 
-        int pointsGiven(int p) {
-            findHit();
-            int side = Long.compare(2 * hit, base);
-            if (side == 0) {
-                return 0;
-            }
-            for (int g = 0; g < p; g++) {
-                if (isEven(p, g, side)) {
-                    return side * g;
-                }
-            }
-            return side * (p - 1);
-        }
-
         private boolean isEven(int p, int g, int side) {
             if (side > 0) {
-                work(p, p - g);
+                play(p, p - g);
                 return 2 * above <= below;
             }
-            work(p - g, p);
+            play(p - g, p);
             return 2 * above >= below;
         }
 
@@ -996,7 +1014,7 @@ public final class FlungFingers {
 
         /** Tallies what follows each CONTEXT of k. */
         void tally(int man, int k) {
-            int n = law.throwCount();
+            int n = law.throwCount;
             int contexts = Math.max(1, contextCount(k));
             Arrays.fill(counts, 0);
             int context = 0;
@@ -1012,7 +1030,7 @@ public final class FlungFingers {
 
         /** How often a CONTEXT that was tallied COMES. */
         int places(int context) {
-            int n = law.throwCount();
+            int n = law.throwCount;
             int all = 0;
             for (int i = 0; i < n; i++) {
                 all += counts[context * n + i];
@@ -1021,7 +1039,7 @@ public final class FlungFingers {
         }
 
         int followed(int context, int fingers) {
-            return counts[context * law.throwCount() + fingers - law.low];
+            return counts[context * law.throwCount + fingers - law.low];
         }
 
         int triedBy(int man) {
@@ -1032,7 +1050,7 @@ public final class FlungFingers {
                     all += places(context) > 0 ? 1 : 0;
                 }
             }
-            return all * law.throwCount();
+            return all * law.throwCount;
         }
 
         /**
@@ -1045,7 +1063,7 @@ public final class FlungFingers {
             if (least == 0 && !whole) {
                 return false;
             }
-            return chances.isRare(places(context), least, law.throwCount(), times, whole);
+            return chances.isRare(places(context), least, law.throwCount, times, whole);
         }
 
         int listTold(int man, int odds) {
@@ -1096,7 +1114,7 @@ public final class FlungFingers {
         private int contextCount(int k) {
             int all = 1;
             for (int i = 0; i < k && i < MOST_K; i++) {
-                all *= law.throwCount();
+                all *= law.throwCount;
             }
             return all;
         }
@@ -1149,7 +1167,7 @@ public final class FlungFingers {
             game.work();
             weigh(men);
             best = NONE;
-            for (int i = 0; i < law.wayCount(); i++) {
+            for (int i = 0; i < law.wayCount; i++) {
                 long newGain = means[i] * game.z - mixMean;
                 if (newGain > 0) {
                     stretch(i, e);
@@ -1180,7 +1198,7 @@ public final class FlungFingers {
         /** The least over WAYS j of what it brings against them. */
         void putWorst(Fraction fraction) {
             long least = 0;
-            for (int j = 0; j < law.wayCount(); j++) {
+            for (int j = 0; j < law.wayCount; j++) {
                 long rise = law.payOf(Math.max(0, best), j) * game.z - earned[j];
                 long brought = earned[j] * THOUSAND * low + top * rise;
                 least = j == 0 ? brought : Math.min(least, brought);
@@ -1189,7 +1207,7 @@ public final class FlungFingers {
         }
 
         private void weigh(Men men) {
-            int ways = law.wayCount();
+            int ways = law.wayCount;
             weights = 0;
             for (int j = 0; j < ways; j++) {
                 weight[j] = men.foreseenCount(law.throwOf(j));
@@ -1210,7 +1228,7 @@ public final class FlungFingers {
         private void stretch(int i, int e) {
             newTop = THOUSAND;
             newLow = 1;
-            for (int j = 0; j < law.wayCount(); j++) {
+            for (int j = 0; j < law.wayCount; j++) {
                 long fall = earned[j] - law.payOf(i, j) * game.z;
                 long spare = THOUSAND * (earned[j] - game.worth()) + e * game.z;
                 if (fall > 0 && spare * newLow < newTop * fall) {

@@ -104,6 +104,19 @@ public final class FractionSentencesTest extends Sentences {
             x.tail(0, 0, 0, 1);
             due(x.sign(), 1);
         });
+        sentence(10, "lowest terms: below has a limb less by it", x -> {
+            flingAll(x, 0, 1, 28);
+            fling(x, 0, "22");
+            // 1 and 30 and 435 of 2 to the 30th
+            x.tail(0, 0, 0, 1);
+            fraction(x, 233, 1 << 29);
+            x.rule(0, 0, 2, 2);
+            flingAll(x, 0, 1, 18);
+            x.flung(0, 0);
+            // 1 and 38 of 3 to the 19th
+            x.tail(0, 0, 0, 1);
+            fraction(x, 13, 387420489);
+        });
         sentence(10, "NONE: not so many", x -> {
             due(x.limb(0, 0), NONE);
             due(x.limb(1, 0), 1);
@@ -235,7 +248,18 @@ public final class FractionSentencesTest extends Sentences {
             }
             due(read(x).compareTo(all), 0);
         });
+        sentence(13, "of ONE a half, also behind a RULE by which PLAYER 0 never scores", x -> {
+            x.rule(0, 1, 2, 5);
+            due(x.chance(1, 1), 1);
+            fraction(x, 0, 1);
+            x.rule(1, 1, 2, 5);
+            due(x.chance(1, 1), 1);
+            fraction(x, 1, 2);
+        });
         sentence(13, "of ONE a half", x -> {
+            x.rule(0, 0, 4, 5);
+            due(x.chance(1, 1), 1);
+            fraction(x, 1, 5);
             for (int f = 1; f <= 4; f++) {
                 x.rule(1, 0, f, 5);
                 due(x.chance(2, 1), 1);

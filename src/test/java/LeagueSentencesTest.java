@@ -179,6 +179,21 @@ public final class LeagueSentencesTest extends Sentences {
             due(x.can(1), 1);
             due(x.can(2), 0);
         });
+        sentence(42, "three results and no other", x -> {
+            // 0 has 3 as 1 has, 2 none, 3 has 2: 1 must lose both of its games, by which 3 has 4
+            x.played(0, 4, 1, 0);
+            x.played(0, 4, 1, 1);
+            x.played(1, 5, 1, 0);
+            x.played(1, 5, 1, 1);
+            x.played(3, 5, 1, 0);
+            x.left(1, 2);
+            x.left(1, 3);
+            due(x.can(0), 0);
+            due(x.can(1), 1);
+            due(x.can(3), 1);
+            due(x.how(0), 1);
+            due(x.how(1), 2);
+        });
         sentence(42, "all of 9 LEFT games must be won", x -> {
             for (int i = 0; i < 9; i++) {
                 x.played(0, 1, 1, 0);
@@ -330,6 +345,16 @@ public final class LeagueSentencesTest extends Sentences {
             x.dispute(0, 1, true);
             long h = fold(257, 0, 1, 2, 2, 1, 0, 0, 0, 20, 100, 1, 2);
             due(x.digest(), fold(h, 0, 0, 0, 0, 3, 4, 0, 1, 0, 0, 0, 0, 0, 0));
+        });
+        sentence(45, "whether each is DISPUTED: of each ROUND its own", x -> {
+            x.round(3, 4);
+            x.round(5, 6);
+            x.round(7, 8);
+            x.dispute(1, 1, true);
+            x.dispute(2, 0, true);
+            long h = fold(257, 0, 1, 2, 2, 3, 0, 0, 0, 20, 100, 1, 2);
+            h = fold(h, 0, 0, 0, 0, 3, 4, 0, 0, 5, 6, 0, 1, 7, 8, 1, 0);
+            due(x.digest(), fold(h, 0, 0, 0, 0, 0, 0));
         });
         sentence(45, "h wraps around as a long does: all that is full", x -> {
             long h = fold(257, 0, 1, 2, 2, 40, 60, 0, 0, 20, 100, 1, 2);

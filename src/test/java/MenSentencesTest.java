@@ -398,6 +398,117 @@ public final class MenSentencesTest extends Sentences {
         });
     }
 
+    /** AN ANSWER by its definition, from PAYS, MIXES and THE VALUE as they are told. */
+    private static final class Answer {
+        private final FlungFingers x = new FlungFingers();
+        private final int[] rule;
+        private final int ways;
+        private final int[][] pays;
+        private final Ratio[] mix, weight, earned, mean;
+        private final Ratio value;
+        private Ratio mixMean = Ratio.ZERO;
+
+        Answer(int[] rule) {
+            this.rule = rule;
+            ways = setRule(x);
+            pays = new int[ways][ways];
+            mix = new Ratio[ways];
+            weight = new Ratio[ways];
+            earned = new Ratio[ways];
+            mean = new Ratio[ways];
+            x.value();
+            value = read(x);
+            readTable();
+            foresee();
+            for (int i = 0; i < ways; i++) {
+                earned[i] = Ratio.ZERO;
+                mean[i] = Ratio.ZERO;
+                for (int j = 0; j < ways; j++) {
+                    earned[i] = earned[i].plus(mix[j].times(Ratio.of(pays[j][i])));
+                    mean[i] = mean[i].plus(weight[j].times(Ratio.of(pays[i][j])));
+                }
+                mixMean = mixMean.plus(mix[i].times(mean[i]));
+            }
+        }
+
+        private int setRule(FlungFingers y) {
+            return y.rule(rule[0], rule[1], rule[2], rule[3]);
+        }
+
+        private void readTable() {
+            for (int i = 0; i < ways; i++) {
+                FlungFingers y = new FlungFingers();
+                setRule(y);
+                for (int j = 0; j < ways; j++) {
+                    pays[i][j] = y.pay(i, j);
+                }
+                y.mix(0, i);
+                mix[i] = read(y);
+            }
+        }
+
+        /** The MAN throws f mostly, now and then one less. */
+        private void foresee() {
+            int f = rule[2], n = f - rule[1] + 1;
+            for (int i = 0; i < 60; i++) {
+                x.flung(0, i % 7 == 3 ? f - 1 : f);
+            }
+            int all = 0;
+            for (int fingers = rule[1]; fingers <= f; fingers++) {
+                all += x.foreseenAt(0, fingers);
+            }
+            for (int j = 0; j < ways; j++) {
+                weight[j] = Ratio.of(x.foreseenAt(0, x.way(j, 0)), (long) all * (rule[0] == 0 ? 1 : n));
+            }
+        }
+
+        private Ratio against(int i, Ratio t, int j) {
+            return Ratio.ONE.minus(t).times(earned[j]).plus(t.times(Ratio.of(pays[i][j])));
+        }
+
+        private Ratio worst(int i, Ratio t) {
+            Ratio least = against(i, t, 0);
+            for (int j = 1; j < ways; j++) {
+                Ratio one = against(i, t, j);
+                least = one.compareTo(least) < 0 ? one : least;
+            }
+            return least;
+        }
+
+        private Ratio greatest(int i, Ratio floor) {
+            Ratio t = Ratio.ONE;
+            for (int j = 0; j < ways; j++) {
+                Ratio fall = earned[j].minus(Ratio.of(pays[i][j]));
+                if (fall.sign() > 0) {
+                    Ratio most = earned[j].minus(floor).by(fall);
+                    t = most.compareTo(t) < 0 ? most : t;
+                }
+            }
+            return t;
+        }
+
+        void isAsDefined(int e) {
+            Ratio floor = value.minus(Ratio.of(e, 1000));
+            int best = NONE;
+            Ratio bestT = Ratio.ZERO, bestGain = Ratio.ZERO;
+            for (int i = 0; i < ways; i++) {
+                Ratio more = mean[i].minus(mixMean), t = greatest(i, floor);
+                if (more.sign() > 0 && (best == NONE || t.times(more).compareTo(bestGain) > 0)) {
+                    best = i;
+                    bestT = t;
+                    bestGain = t.times(more);
+                }
+            }
+            due(x.answer(0, e), best);
+            due(read(x).compareTo(bestT), 0);
+            holds(worst(best, bestT).compareTo(floor) >= 0);
+            due(x.answers(0, e, 0), mixMean.plus(bestGain).sign());
+            due(read(x).compareTo(mixMean.plus(bestGain)), 0);
+            due(x.answers(0, e, 1), worst(best, bestT).sign());
+            due(read(x).compareTo(worst(best, bestT)), 0);
+        }
+    }
+
     private static void answering() {
         sentence(25, "t 0 .. 1: from nothing to all", x -> {
             ones(x, 0, 25, 20);
@@ -447,6 +558,14 @@ public final class MenSentencesTest extends Sentences {
             due(x.answers(0, 2000, 0), 1);
             fraction(x, 1, 2);
         });
+        sentence(25, "by the definition: t as great as may be, the greatest t times (W(i) less G), the least i", x -> {
+            int[][] rules = {{0, 0, 4, 3}, {0, 1, 4, 5}, {1, 0, 2, 0}, {1, 1, 4, 0}, {2, 1, 2, 0}, {2, 0, 2, 0}, {2, 1, 3, 0}, {2, 0, 4, 0}};
+            for (int[] rule : rules) {
+                for (int e : new int[] {0, 1, 37, 333, 1000, 1999, 2000}) {
+                    new Answer(rule).isAsDefined(e);
+                }
+            }
+        });
         sentence(25, "NONE: no WAY brings more than THE MIX, and THE FRACTION stays", x -> refused(y -> {
             y.rule(1, 0, 2, 0);
             y.chance(2, 1);
@@ -481,11 +600,27 @@ public final class MenSentencesTest extends Sentences {
             due(x.answers(0, 2000, 1), -1);
             fraction(x, -1, 1);
         });
-        sentence(26, "its sign below 0 on the mean", x -> {
+        sentence(26, "its sign on the mean: below 0, 0, above 0", x -> {
             x.rule(0, 0, 4, 5);
             flingAll(x, 0, 0, 60);
-            due(x.answers(0, 0, 0), -1);
-            fraction(x, -3, 5);
+            // WAY 0 brings 1, THE MIX -3 by 5, and t is e by 400
+            int[][] want = {{0, -1, -3, 5}, {100, -1, -1, 5}, {149, -1, -1, 250}, {150, 0, 0, 1}, {151, 1, 1, 250}, {200, 1, 1, 5},
+                {400, 1, 1, 1}, {2000, 1, 1, 1}};
+            for (int[] w : want) {
+                due(x.answers(0, w[0], 0), w[1]);
+                fraction(x, w[2], w[3]);
+            }
+            due(x.answers(0, 100, 1), -1);
+            fraction(x, -7, 10);
+        });
+        sentence(26, "the WAY that is worst: the first one, the last one", x -> {
+            flingAll(x, 0, 2, 25);
+            due(x.answers(0, 300, 1), -1);
+            fraction(x, -3, 10);
+            x.rule(0, 1, 2, 2);
+            flingAll(x, 0, 1, 25);
+            due(x.answers(0, 300, 1), -1);
+            fraction(x, -3, 10);
         });
         sentence(26, "BAD: -100: what", x -> refused(Sentences::rich, FAR_BAD,
             y -> y.answers(0, 0, -1), y -> y.answers(0, 0, 2), y -> y.answers(0, 0, SMALL), y -> y.answers(0, 0, BIG)));

@@ -315,6 +315,15 @@ public final class RulesSentencesTest extends Sentences {
             due(x.mix(0, 0), 1);
             due(x.mix(0, 1), 0);
         });
+        sentence(6, "THE MIX of the RULE of now, of both PLAYERS", x -> {
+            x.rule(1, 1, 2, 0);
+            due(x.mix(0, 1), 1);
+            due(x.mix(1, 1), 1);
+            x.rule(0, 1, 2, 5);
+            due(x.mix(0, 1), 0);
+            due(x.mix(1, 1), 0);
+            due(x.mix(1, 0), 1);
+        });
         sentence(6, "BAD: a PLAYER", x -> refused(Sentences::rich, BAD,
             y -> y.mix(-1, 0), y -> y.mix(2, 0), y -> y.mix(SMALL, 0), y -> y.mix(BIG, 0)));
         sentence(6, "BAD: a WAY", x -> {
@@ -330,6 +339,24 @@ public final class RulesSentencesTest extends Sentences {
         });
     }
 
+    private static void bringsAsMixed(int kind, int player) {
+        FlungFingers x = new FlungFingers();
+        int ways = x.rule(kind, 1, 3, 3);
+        Ratio[] mix = new Ratio[ways];
+        for (int k = 0; k < ways; k++) {
+            x.mix(player, k);
+            mix[k] = read(x);
+        }
+        for (int i = 0; i < ways; i++) {
+            Ratio all = Ratio.ZERO;
+            for (int k = 0; k < ways; k++) {
+                all = all.plus(mix[k].times(Ratio.of(player == 0 ? x.pay(k, i) : x.pay(i, k))));
+            }
+            due(x.brings(player, i), all.sign());
+            due(read(x).compareTo(all), 0);
+        }
+    }
+
     private static void bringing() {
         sentence(7, "what THE MIX of a PLAYER brings PLAYER 0, its sign", x -> {
             x.rule(0, 0, 1, 3);
@@ -341,6 +368,21 @@ public final class RulesSentencesTest extends Sentences {
             due(x.brings(1, 0), -1);
             fraction(x, -1, 1);
             due(x.brings(1, 1), -1);
+        });
+        sentence(7, "what PLAYER 0 gets, by PAYS and THE MIX, whoever's it is", x -> {
+            for (int kind = 0; kind <= 2; kind++) {
+                for (int player = 0; player <= 1; player++) {
+                    bringsAsMixed(kind, player);
+                }
+            }
+            x.rule(2, 1, 2, 0);
+            int above = 0, below = 0;
+            for (int i = 0; i < 4; i++) {
+                above += x.brings(0, i) > 0 ? 1 : 0;
+                below += x.brings(1, i) < 0 ? 1 : 0;
+            }
+            due(above, 1);
+            due(below, 1);
         });
         sentence(7, "a sign of 0: 0 by 1", x -> {
             due(x.brings(0, 0), 0);

@@ -42,6 +42,23 @@ public final class SlateSentencesTest extends Sentences {
             x.round(0, 0);
             due(x.fills(), 0);
         });
+        sentence(27, "nor is what was DISPUTED behind later ROUNDS", x -> {
+            x.slate(9);
+            for (int i = 0; i < 4; i++) {
+                x.round(0, i);
+                x.dispute(i, 1, true);
+            }
+            due(x.fills(), 1);
+            x.slate(9);
+            for (int i = 0; i < 4; i++) {
+                x.round(NONE, i);
+                due(x.had(i, 1, true), i);
+            }
+            x.slate(9);
+            x.round(0, 1);
+            x.round(0, 1);
+            due(x.wrong(), 1);
+        });
     }
 
     private static void marks() {
@@ -349,6 +366,38 @@ public final class SlateSentencesTest extends Sentences {
             due(x.had(1, 1, true), 16);
             due(x.had(0, 0, false), 0);
         });
+        sentence(31, "what comes behind tells of the first ROUND too", x -> {
+            x.slate(5);
+            x.round(NONE, NONE);
+            due(x.had(0, 0, true), 1);
+            x.round(0, NONE);
+            due(x.had(0, 0, true), 0);
+            due(x.had(0, 1, false), 1);
+            x.slate(5);
+            x.round(NONE, NONE);
+            x.round(NONE, 0);
+            due(x.had(0, 1, true), 0);
+            due(x.had(0, 0, false), 1);
+            due(x.had(1, 1, true), 0);
+        });
+        sentence(31, "a mark DISPUTED or no more, another RULE: it is found anew", x -> {
+            x.rule(1, 0, 1, 0);
+            x.slate(5);
+            x.round(NONE, 0);
+            due(x.had(0, 0, false), 0);
+            x.rule(0, 0, 1, 2);
+            due(x.had(0, 0, false), 1);
+            x.dispute(0, 1, true);
+            due(x.had(0, 0, false), 0);
+            due(x.had(0, 1, true), 1);
+            x.dispute(0, 1, false);
+            due(x.had(0, 0, false), 1);
+            due(x.had(0, 1, true), 0);
+            x.rule(2, 0, 4, 0);
+            due(x.had(0, 0, true), 8);
+            x.rule(1, 0, 4, 0);
+            due(x.had(0, 0, true), 1);
+        });
         sentence(31, "NONE: there are no FILLS", x -> {
             x.slate(3);
             x.round(1, 0);
@@ -416,6 +465,21 @@ public final class SlateSentencesTest extends Sentences {
             x.round(0, 0);
             x.round(NONE, NONE);
             due(x.wrong(), 2);
+        });
+        sentence(32, "a mark DISPUTED or no more, another RULE: it is found anew", x -> {
+            x.rule(1, 0, 1, 0);
+            x.slate(5);
+            x.round(0, 0);
+            x.round(0, 1);
+            due(x.wrong(), NONE);
+            x.rule(0, 0, 1, 2);
+            due(x.wrong(), 0);
+            x.dispute(0, 0, true);
+            due(x.wrong(), 1);
+            x.dispute(1, 0, true);
+            due(x.wrong(), NONE);
+            x.dispute(0, 0, false);
+            due(x.wrong(), 0);
         });
         sentence(32, "a ROUND behind the end", x -> {
             x.slate(1);
@@ -526,6 +590,29 @@ public final class SlateSentencesTest extends Sentences {
             x.heard(0, 0, 1);
             x.late(0);
             fraction(x, 5, 6);
+        });
+        sentence(36, "W and K need not be alike", x -> {
+            int[][] heard = {{500, 0}, {500, 0}, {0, 0}, {0, 1}, {0, 1}};
+            for (int[] h : heard) {
+                x.heard(h[0], 0, h[1]);
+            }
+            // all 2 among which he was LATE are of the 3 at which he scored
+            x.late(0);
+            fraction(x, 3, 10);
+            x.silence();
+            int[][] other = {{500, 0}, {500, 0}, {500, 1}, {0, 1}, {0, 1}};
+            for (int[] h : other) {
+                x.heard(h[0], 0, h[1]);
+            }
+            x.late(0);
+            fraction(x, 3, 10);
+            x.silence();
+            int[][] third = {{500, 0}, {500, 1}, {500, 1}, {0, 0}, {0, 1}};
+            for (int[] h : third) {
+                x.heard(h[0], 0, h[1]);
+            }
+            x.late(0);
+            fraction(x, 9, 10);
         });
         sentence(36, "it times ODDS is no more than 1: 1 is, more is not", x -> {
             x.heard(500, 0, 0);

@@ -150,6 +150,31 @@ public final class FractionSentencesTest extends Sentences {
         });
     }
 
+    /** Calls that are not said to put anything in THE FRACTION, each of them answered and none refused. */
+    private static final Call[] QUIET = {
+        y -> y.rule(0, 1, 2, 5), y -> y.way(8, 1), y -> y.pay(0, 8), y -> y.steps(), y -> y.limbs(0), y -> y.limb(1, 0), y -> y.sign(),
+        y -> y.millionths(), y -> y.given(12), y -> y.flung(0, 2), y -> y.forget(0), y -> y.odds(1), y -> y.comes(0, 1, 0, 1),
+        y -> y.tried(0), y -> y.told(0), y -> y.toldAt(0, 0), y -> y.foreseen(0), y -> y.foreseenAt(0, 1), y -> y.slate(7),
+        y -> y.round(1, 1), y -> y.dispute(0, 0, false), y -> y.fills(), y -> y.had(0, 0, true), y -> y.wrong(), y -> y.heard(1, 2, 0),
+        y -> y.beat(0), y -> y.lates(0, 3), y -> y.silence(), y -> y.played(0, 1, 1, 0), y -> y.left(0, 1), y -> y.next(1, 0),
+        y -> y.has(0), y -> y.can(0), y -> y.how(0), y -> y.count(3), y -> y.digest()};
+
+    private static boolean isRefusal(long answer) {
+        return answer == BAD || answer == NO || answer == FULL || answer == FAR_BAD || answer == FAR_NO || answer == FAR_NONE;
+    }
+
+    private static void stays() {
+        sentence(11, "THE FRACTION stays by each call that is not said to put something there", x -> {
+            for (Call call : QUIET) {
+                FlungFingers y = new FlungFingers();
+                rich(y);
+                Ratio was = read(y);
+                holds(!isRefusal(call.on(y)));
+                due(read(y).compareTo(was), 0);
+            }
+        });
+    }
+
     private static void millionths() {
         sentence(12, "no more than: above 0 downwards", x -> {
             x.rule(0, 0, 2, 3);
@@ -330,6 +355,7 @@ public final class FractionSentencesTest extends Sentences {
         limbCounts();
         limbsThemselves();
         signs();
+        stays();
         millionths();
         chances();
         given();

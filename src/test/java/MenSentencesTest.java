@@ -408,7 +408,7 @@ public final class MenSentencesTest extends Sentences {
         private final Ratio value;
         private Ratio mixMean = Ratio.ZERO;
 
-        Answer(int[] rule) {
+        Answer(int[] rule, int most) {
             this.rule = rule;
             ways = setRule(x);
             pays = new int[ways][ways];
@@ -419,7 +419,7 @@ public final class MenSentencesTest extends Sentences {
             x.value();
             value = read(x);
             readTable();
-            foresee();
+            foresee(most);
             for (int i = 0; i < ways; i++) {
                 earned[i] = Ratio.ZERO;
                 mean[i] = Ratio.ZERO;
@@ -447,11 +447,11 @@ public final class MenSentencesTest extends Sentences {
             }
         }
 
-        /** The MAN throws f mostly, now and then one less. */
-        private void foresee() {
-            int f = rule[2], n = f - rule[1] + 1;
+        /** The MAN throws this mostly, now and then another. */
+        private void foresee(int most) {
+            int l = rule[1], f = rule[2], n = f - l + 1;
             for (int i = 0; i < 60; i++) {
-                x.flung(0, i % 7 == 3 ? f - 1 : f);
+                x.flung(0, i % 7 == 3 ? l + (most - l + 1) % n : most);
             }
             int all = 0;
             for (int fingers = rule[1]; fingers <= f; fingers++) {
@@ -500,6 +500,9 @@ public final class MenSentencesTest extends Sentences {
                 }
             }
             due(x.answer(0, e), best);
+            if (best == NONE) {
+                return;
+            }
             due(read(x).compareTo(bestT), 0);
             holds(worst(best, bestT).compareTo(floor) >= 0);
             due(x.answers(0, e, 0), mixMean.plus(bestGain).sign());
@@ -559,10 +562,13 @@ public final class MenSentencesTest extends Sentences {
             fraction(x, 1, 2);
         });
         sentence(25, "by the definition: t as great as may be, the greatest t times (W(i) less G), the least i", x -> {
-            int[][] rules = {{0, 0, 4, 3}, {0, 1, 4, 5}, {1, 0, 2, 0}, {1, 1, 4, 0}, {2, 1, 2, 0}, {2, 0, 2, 0}, {2, 1, 3, 0}, {2, 0, 4, 0}};
-            for (int[] rule : rules) {
-                for (int e : new int[] {0, 1, 37, 333, 1000, 1999, 2000}) {
-                    new Answer(rule).isAsDefined(e);
+            for (int number = 0; number < 3 * 2 * 4 * 4; number++) {
+                int[] rule = {number % 3, number / 3 % 2, 1 + number / 6 % 4, 2 + number / 24};
+                boolean isRule = rule[2] > rule[1] && (rule[0] == 0 || rule[3] == 2);
+                for (int most = rule[1]; most <= rule[2] && isRule; most++) {
+                    for (int e : new int[] {0, 1, 37, 333, 1000, 1999, 2000}) {
+                        new Answer(rule, most).isAsDefined(e);
+                    }
                 }
             }
         });

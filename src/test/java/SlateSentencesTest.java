@@ -380,6 +380,36 @@ public final class SlateSentencesTest extends Sentences {
             due(x.had(0, 0, false), 1);
             due(x.had(1, 1, true), 0);
         });
+        sentence(31, "what one comes to from several sides: the greatest by way of the least", x -> {
+            x.rule(2, 0, 4, 0);
+            x.slate(19);
+            x.round(0, NONE);
+            x.dispute(0, 0, true);
+            x.round(NONE, NONE);
+            x.round(2, NONE);
+            // the other one has 8 and 16, while this one has 0, and 2 at the end
+            due(x.had(1, 1, true), 16);
+            due(x.had(2, 1, true), 16);
+            due(x.had(1, 0, true), 2);
+        });
+        sentence(31, "what one comes to from several sides: by DISPUTED marks that leave one throw", x -> {
+            x.rule(2, 1, 3, 0);
+            x.slate(16);
+            int[][] marks = {{NONE, 5}, {NONE, 6}, {1, NONE}, {7, NONE}, {7, NONE}};
+            for (int[] mark : marks) {
+                x.round(mark[0], mark[1]);
+            }
+            x.dispute(0, 1, true);
+            x.dispute(1, 1, true);
+            x.dispute(2, 0, true);
+            // 5 and 2 more, or 6 and none; 0, 0, 2 and 7, or 0, 2, 2 and 7
+            due(x.had(0, 1, false), 5);
+            due(x.had(0, 1, true), 6);
+            due(x.had(1, 1, false), 6);
+            due(x.had(1, 1, true), 7);
+            due(x.had(2, 0, false), 2);
+            due(x.had(2, 1, true), 12);
+        });
         sentence(31, "a mark DISPUTED or no more, another RULE: it is found anew", x -> {
             x.rule(1, 0, 1, 0);
             x.slate(5);
